@@ -1,0 +1,269 @@
+/** The words of leaves and joins, and each rule of writing, sentence by sentence. */
+public final class WritingTest {
+    private static final Checks CHECKS = new Checks();
+
+    public static void main(String[] args) {
+        wordsOfSets();
+        wordsOfLeaves();
+        wordsOfJoins();
+        aLeafAndANumberedJoin();
+        aJoinThatIsPassedOver();
+        aSharedJoinIsNotPassedOver();
+        anInnerJoinWithANumber();
+        oneOfTwoJoinsSimple();
+        bothJoinsSimple();
+        noneOfTwoJoinsSimple();
+        theSecondGetsItsNumberMeanwhile();
+        oneOfTwoJoinsNumbered();
+        sharedOnlyInsideTheWrittenOne();
+        CHECKS.end("WritingTest");
+    }
+
+    private static void written(NoneWords x, int node, String... sentences) {
+        CHECKS.written(x, node, sentences);
+    }
+
+    private static NoneWords withNames(int... versions) {
+        NoneWords x = new NoneWords();
+        for (int count : versions) {
+            x.name(count);
+        }
+        return x;
+    }
+
+    private static int gone(NoneWords x, int name, int set) {
+        return x.leaf(2, name, set, 0, 0);
+    }
+
+    private static int asked(NoneWords x, int name, int set) {
+        return x.leaf(0, name, set, 0, 0);
+    }
+
+    private static void wordsOfSets() {
+        String[] words = {"no a", "a 0", "a 1", "a 0-1", "a 2", "a 0,2", "a 1-2", "a 0-2",
+            "a 3", "a 0,3", "a 1,3", "a 0-1,3", "a 2-3", "a 0,2-3", "a 1-3", "a"};
+        NoneWords four = withNames(4);
+        for (int set = 0; set < 16; set++) {
+            written(four, gone(four, 0, set), words[set] + " is withdrawn.");
+        }
+        NoneWords three = withNames(3);
+        for (int set = 0; set < 16; set++) {
+            String told = (set & 7) == 7 ? "a" : words[set & 7];
+            written(three, gone(three, 0, set), told + " is withdrawn.");
+        }
+        NoneWords none = withNames(1, 0);
+        written(none, gone(none, 0, 1), "a is withdrawn.");
+        written(none, gone(none, 0, 2), "no a is withdrawn.");
+        written(none, gone(none, 1, 15), "no b is withdrawn.");
+    }
+
+    private static void wordsOfLeaves() {
+        NoneWords x = withNames(4, 4, 4, 4, 4);
+        written(x, asked(x, 4, 6), "e 1-2 is asked for.");
+        written(x, asked(x, 3, 0), "no d is asked for.");
+        written(x, x.leaf(1, 3, 9, 1, 0), "d 0,3 needs no b.");
+        written(x, x.leaf(1, 2, 15, 0, 3), "c needs a 0-1.");
+        written(x, x.leaf(3, 4, 1, 2, 2), "e 0 excludes c 1.");
+        written(x, x.leaf(3, 0, 0, 1, 0), "no a excludes no b.");
+    }
+
+    private static void wordsOfJoins() {
+        NoneWords x = withNames(2, 2, 2, 2, 2);
+        int aGone = gone(x, 0, 1);
+        written(x, x.join(aGone, aGone, 0), "Because a 0 is withdrawn and a 0 is withdrawn, a 0 can't be.");
+        int ab = x.leaf(3, 0, 1, 1, 2);
+        int both = x.join(ab, ab, 0);
+        written(x, both, "Because a 0 excludes b 1 and a 0 excludes b 1, a 0 and b 1 can't both be.");
+        int bc = x.leaf(3, 1, 1, 2, 3);
+        int all = x.join(ab, bc, 1);
+        written(x, all, "Because a 0 excludes b 1 and b 0 excludes c, a 0 and b and c can't all be.");
+        int aOrB = x.join(asked(x, 0, 3), x.leaf(1, 0, 3, 1, 1), 0);
+        written(x, aOrB, "Because a is asked for and a needs b 0, b 0 must be.");
+        int ask = asked(x, 0, 2);
+        written(x, x.join(ask, ask, 0), "Because a 1 is asked for and a 1 is asked for, a 1 must be.");
+        int need = x.leaf(1, 0, 1, 1, 1);
+        int needed = x.join(need, x.leaf(1, 1, 1, 3, 2), 1);
+        written(x, needed, "Because a 0 needs b 0 and b 0 needs d 1, a 0 means d 1.");
+        int two = x.join(need, x.leaf(3, 0, 3, 4, 1), 0);
+        written(x, two, "Because a 0 needs b 0 and a excludes e 0, a and e 0 mean b 0.");
+        int or = x.join(need, x.leaf(1, 0, 2, 2, 1), 0);
+        written(x, or, "Because a 0 needs b 0 and a 1 needs c 0, a means b 0 or c 0.");
+        int must = x.join(or, asked(x, 0, 3), 0);
+        written(x, must,
+            "Because a 0 needs b 0 and a 1 needs c 0, a means b 0 or c 0.",
+            "And because a is asked for, b 0 or c 0 must be.");
+        int never = x.join(x.leaf(3, 0, 1, 1, 1), x.leaf(3, 0, 2, 2, 1), 0);
+        int never2 = x.join(never, x.leaf(3, 1, 2, 2, 1), 2);
+        written(x, never2,
+            "Because a 0 excludes b 0 and a 1 excludes c 0, a and b 0 and c 0 can't all be.",
+            "And because b 1 excludes c 0, a and no b and c 0 can't all be.");
+    }
+
+    /** Rule 2, J with a NUMBER. */
+    private static void aLeafAndANumberedJoin() {
+        NoneWords x = withNames(4);
+        int simple = x.join(gone(x, 0, 1), gone(x, 0, 2), 0);
+        int more = x.join(simple, gone(x, 0, 4), 0);
+        int again = x.join(gone(x, 0, 8), simple, 0);
+        written(x, x.join(more, again, 0),
+            "[1] Because a 0 is withdrawn and a 1 is withdrawn, a 0-1 can't be.",
+            "[2] And because a 2 is withdrawn, a 0-2 can't be.",
+            "Because a 3 is withdrawn and a 0-1 can't be (1), a 0-1,3 can't be.",
+            "And because a 0-2 can't be (2), a can't be.");
+    }
+
+    /** Rule 2, J isn't SHARED and is of a LEAF and a JOIN; on both sides of each join. */
+    private static void aJoinThatIsPassedOver() {
+        NoneWords x = withNames(4);
+        int simple = x.join(gone(x, 0, 1), gone(x, 0, 2), 0);
+        int passed = x.join(simple, gone(x, 0, 4), 0);
+        int last = x.join(passed, gone(x, 0, 8), 0);
+        written(x, last,
+            "Because a 0 is withdrawn and a 1 is withdrawn, a 0-1 can't be.",
+            "And because a 2 is withdrawn and a 3 is withdrawn, a can't be.");
+        int more = x.join(asked(x, 0, 15), last, 0);
+        written(x, more,
+            "Because a 0 is withdrawn and a 1 is withdrawn, a 0-1 can't be.",
+            "And because a 2 is withdrawn, a 0-2 can't be.",
+            "And because a 3 is withdrawn and a is asked for, nothing is left.");
+    }
+
+    private static void aSharedJoinIsNotPassedOver() {
+        NoneWords x = withNames(4);
+        int simple = x.join(gone(x, 0, 1), gone(x, 0, 2), 0);
+        int shared = x.join(simple, gone(x, 0, 4), 0);
+        int one = x.join(shared, gone(x, 0, 8), 0);
+        written(x, x.join(one, shared, 0),
+            "Because a 0 is withdrawn and a 1 is withdrawn, a 0-1 can't be.",
+            "[1] And because a 2 is withdrawn, a 0-2 can't be.",
+            "[2] And because a 3 is withdrawn, a can't be.",
+            "And because a 0-2 can't be (1), a can't be.");
+    }
+
+    /** Rule 2, J isn't SHARED, but what it is of has a NUMBER. */
+    private static void anInnerJoinWithANumber() {
+        NoneWords x = withNames(4);
+        int simple = x.join(gone(x, 0, 1), gone(x, 0, 2), 0);
+        int one = x.join(simple, gone(x, 0, 4), 0);
+        int two = x.join(simple, gone(x, 0, 8), 0);
+        int three = x.join(two, gone(x, 0, 1), 0);
+        written(x, x.join(one, three, 0),
+            "[1] Because a 0 is withdrawn and a 1 is withdrawn, a 0-1 can't be.",
+            "[2] And because a 2 is withdrawn, a 0-2 can't be.",
+            "Because a 3 is withdrawn and a 0-1 can't be (1), a 0-1,3 can't be.",
+            "And because a 0 is withdrawn, a 0-1,3 can't be.",
+            "And because a 0-2 can't be (2), a can't be.");
+    }
+
+    /** Rule 3, one SIMPLE: it is the second, on whichever side it is. */
+    private static void oneOfTwoJoinsSimple() {
+        NoneWords x = withNames(4);
+        int simple = x.join(gone(x, 0, 1), gone(x, 0, 2), 0);
+        int inner = x.join(gone(x, 0, 4), gone(x, 0, 1), 0);
+        int longer = x.join(inner, gone(x, 0, 8), 0);
+        String[] due = {
+            "Because a 2 is withdrawn and a 0 is withdrawn, a 0,2 can't be.",
+            "And because a 3 is withdrawn, a 0,2-3 can't be.",
+            "Because a 0 is withdrawn and a 1 is withdrawn, a 0-1 can't be.",
+            "Thus, a can't be."};
+        int right = x.join(longer, simple, 0);
+        written(x, right, due);
+        CHECKS.due("no number for a first one beside a simple one", x.numbered(longer), 0);
+        written(x, x.join(simple, longer, 0), due);
+    }
+
+    private static void bothJoinsSimple() {
+        NoneWords x = withNames(4);
+        int left = x.join(gone(x, 0, 1), gone(x, 0, 2), 0);
+        int right = x.join(gone(x, 0, 4), gone(x, 0, 8), 0);
+        written(x, x.join(left, right, 0),
+            "Because a 0 is withdrawn and a 1 is withdrawn, a 0-1 can't be.",
+            "Because a 2 is withdrawn and a 3 is withdrawn, a 2-3 can't be.",
+            "Thus, a can't be.");
+    }
+
+    /** Rule 3, none SIMPLE: the first gets a NUMBER though it isn't SHARED. */
+    private static void noneOfTwoJoinsSimple() {
+        NoneWords x = withNames(4);
+        int left = x.join(x.join(gone(x, 0, 1), gone(x, 0, 2), 0), gone(x, 0, 4), 0);
+        int right = x.join(x.join(gone(x, 0, 2), gone(x, 0, 4), 0), gone(x, 0, 8), 0);
+        int both = x.join(left, right, 0);
+        written(x, both,
+            "Because a 0 is withdrawn and a 1 is withdrawn, a 0-1 can't be.",
+            "[1] And because a 2 is withdrawn, a 0-2 can't be.",
+            "Because a 1 is withdrawn and a 2 is withdrawn, a 1-2 can't be.",
+            "And because a 3 is withdrawn, a 1-3 can't be.",
+            "And because a 0-2 can't be (1), a can't be.");
+        CHECKS.due("the first", x.numbered(left), 1);
+        CHECKS.due("the second", x.numbered(right), 0);
+    }
+
+    /** Rule 3: the second comes into the first, so it has a NUMBER when the first is written. */
+    private static void theSecondGetsItsNumberMeanwhile() {
+        NoneWords x = withNames(4);
+        int inner = x.join(x.join(gone(x, 0, 1), gone(x, 0, 2), 0), gone(x, 0, 4), 0);
+        int outer = x.join(inner, gone(x, 0, 8), 0);
+        int both = x.join(outer, inner, 0);
+        written(x, both,
+            "Because a 0 is withdrawn and a 1 is withdrawn, a 0-1 can't be.",
+            "[1] And because a 2 is withdrawn, a 0-2 can't be.",
+            "[2] And because a 3 is withdrawn, a can't be.",
+            "And because a 0-2 can't be (1), a can't be.");
+        CHECKS.due("the first has one though nothing tells it", x.numbered(outer), 2);
+        int simple = x.join(gone(x, 0, 1), gone(x, 0, 8), 0);
+        int around = x.join(simple, gone(x, 0, 2), 0);
+        written(x, x.join(around, simple, 0),
+            "[1] Because a 0 is withdrawn and a 3 is withdrawn, a 0,3 can't be.",
+            "And because a 1 is withdrawn, a 0-1,3 can't be.",
+            "And because a 0,3 can't be (1), a 0-1,3 can't be.");
+    }
+
+    private static void oneOfTwoJoinsNumbered() {
+        NoneWords x = withNames(4);
+        int simple = x.join(gone(x, 0, 1), gone(x, 0, 2), 0);
+        int other = x.join(gone(x, 0, 4), gone(x, 0, 8), 0);
+        int first = x.join(simple, gone(x, 0, 4), 0);
+        int second = x.join(simple, other, 0);
+        written(x, x.join(first, second, 0),
+            "[1] Because a 0 is withdrawn and a 1 is withdrawn, a 0-1 can't be.",
+            "[2] And because a 2 is withdrawn, a 0-2 can't be.",
+            "Because a 2 is withdrawn and a 3 is withdrawn, a 2-3 can't be.",
+            "And because a 0-1 can't be (1), a can't be.",
+            "And because a 0-2 can't be (2), a can't be.");
+        int turned = x.join(other, simple, 0);
+        written(x, x.join(first, turned, 0),
+            "[1] Because a 0 is withdrawn and a 1 is withdrawn, a 0-1 can't be.",
+            "[2] And because a 2 is withdrawn, a 0-2 can't be.",
+            "Because a 2 is withdrawn and a 3 is withdrawn, a 2-3 can't be.",
+            "And because a 0-1 can't be (1), a can't be.",
+            "And because a 0-2 can't be (2), a can't be.");
+        int third = x.join(simple, first, 0);
+        written(x, x.join(x.join(first, second, 0), third, 0),
+            "[1] Because a 0 is withdrawn and a 1 is withdrawn, a 0-1 can't be.",
+            "[2] And because a 2 is withdrawn, a 0-2 can't be.",
+            "Because a 2 is withdrawn and a 3 is withdrawn, a 2-3 can't be.",
+            "And because a 0-1 can't be (1), a can't be.",
+            "[3] And because a 0-2 can't be (2), a can't be.",
+            "Because a 0-1 can't be (1) and a 0-2 can't be (2), a 0-2 can't be.",
+            "And because a can't be (3), a can't be.");
+    }
+
+    /** A join that the written one isn't made of makes nothing SHARED. */
+    private static void sharedOnlyInsideTheWrittenOne() {
+        NoneWords x = withNames(4);
+        int simple = x.join(gone(x, 0, 1), gone(x, 0, 2), 0);
+        int one = x.join(simple, gone(x, 0, 4), 0);
+        int two = x.join(simple, gone(x, 0, 8), 0);
+        written(x, one,
+            "Because a 0 is withdrawn and a 1 is withdrawn, a 0-1 can't be.",
+            "And because a 2 is withdrawn, a 0-2 can't be.");
+        written(x, two,
+            "Because a 0 is withdrawn and a 1 is withdrawn, a 0-1 can't be.",
+            "And because a 3 is withdrawn, a 0-1,3 can't be.");
+        CHECKS.due("no number", x.numbered(simple), 0);
+        x.join(one, one, 0);
+        written(x, one,
+            "Because a 0 is withdrawn and a 1 is withdrawn, a 0-1 can't be.",
+            "And because a 2 is withdrawn, a 0-2 can't be.");
+    }
+}
