@@ -472,9 +472,10 @@ public final class NoneWords {
         private void openOfLeafAndJoin(int node, int leaf, int join) {
             int innerLeaf = facts.leafPart(join);
             int innerJoin = facts.joinPart(join);
+            boolean isOfBoth = innerLeaf != NONE && innerJoin != NONE;
             if (hasNumber(join)) {
                 close(BECAUSE, leaf, join, node);
-            } else if (!isShared(join) && innerLeaf != NONE && innerJoin != NONE && !hasNumber(innerJoin)) {
+            } else if (isOfBoth && !isShared(join) && !hasNumber(innerJoin)) {
                 await(CLOSE, node, innerLeaf, leaf);
                 await(WRITE, innerJoin, NONE, NONE);
             } else {
@@ -765,7 +766,7 @@ public final class NoneWords {
                     free &= ~bar(node);
                 }
             }
-            return choose(0, free);
+            return canChoose(bars, facts.countNames(), 0, free);
         }
 
         int keepBlamed() {
@@ -850,17 +851,18 @@ public final class NoneWords {
             return 0;
         }
 
-        /** Calls itself once for each name, so never more than five deep. */
-        private boolean choose(int name, int free) {
-            if (!facts.hasName(name)) {
+        /** Whether the names from this one on can be chosen; goes a call deeper for each of them. */
+        private static boolean canChoose(int[] bars, int names, int name, int free) {
+            if (name >= names || name >= MOST_NAMES) {
                 return true;
             }
-            if (isStuck(name, free)) {
+            if (isStuck(names, name, free)) {
                 return false;
             }
             for (int option = 0; option < Facts.OPTIONS; option++) {
                 int place = Facts.OPTIONS * name + option;
-                if ((free >> place & 1) == 1 && choose(name + 1, free & ~bars[place])) {
+                boolean isFree = (free >> place & 1) == 1;
+                if (isFree && canChoose(bars, names, name + 1, free & ~bars[place])) {
                     return true;
                 }
             }
@@ -868,8 +870,8 @@ public final class NoneWords {
         }
 
         /** Whether a name that is still to come has no option left. */
-        private boolean isStuck(int from, int free) {
-            for (int name = from; name < facts.countNames(); name++) {
+        private static boolean isStuck(int names, int from, int free) {
+            for (int name = from; name < names; name++) {
                 if ((free >> (Facts.OPTIONS * name) & Facts.FULL) == 0) {
                     return true;
                 }

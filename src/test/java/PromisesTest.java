@@ -380,6 +380,14 @@ public final class PromisesTest {
         y.leaf(0, 0, 6, 0, 0);
         due("13 all three", y.least(), 3);
         due("14 third", y.demand(2), 2);
+        NoneWords z = withNames(1);
+        z.leaf(0, 0, 1, 0, 0);
+        z.leaf(0, 0, 1, 0, 0);
+        z.leaf(2, 0, 1, 0, 0);
+        due("13 the first goes", z.least(), 1);
+        due("14 the second stays", z.demand(0), 1);
+        due("13 the first is back: the second alone is no hint", z.hint(0), 2);
+        due("13 and no other", z.hint(1), NONE);
     }
 
     /** Promise 15. */
@@ -405,5 +413,11 @@ public final class PromisesTest {
         x.leaf(0, 1, 0, 0, 0);
         due("15 two at once are no hint", x.hint(0), NONE);
         CHECKS.due("15 nothing is left out for good", x.solvable(), false);
+        NoneWords y = withNames(1);
+        y.leaf(2, 0, 1, 0, 0);
+        y.leaf(0, 0, 1, 0, 0);
+        due("15 the first node", y.hint(0), 0);
+        due("15 the last node", y.hint(1), 1);
+        due("15 behind the last", y.hint(2), NONE);
     }
 }
