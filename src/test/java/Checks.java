@@ -3,6 +3,14 @@ final class Checks {
     private int asked = 0;
     private int wrong = 0;
 
+    static NoneWords withNames(int... versions) {
+        NoneWords x = new NoneWords();
+        for (int count : versions) {
+            x.name(count);
+        }
+        return x;
+    }
+
     void due(String call, long got, long want) {
         asked++;
         if (got != want) {

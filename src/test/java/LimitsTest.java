@@ -12,16 +12,8 @@ public final class LimitsTest {
         CHECKS.end("LimitsTest");
     }
 
-    private static NoneWords withNames(int... versions) {
-        NoneWords x = new NoneWords();
-        for (int count : versions) {
-            x.name(count);
-        }
-        return x;
-    }
-
     private static void mostNodes() {
-        NoneWords x = withNames(4, 4);
+        NoneWords x = Checks.withNames(4, 4);
         for (int node = 0; node < 120; node++) {
             int got = node % 2 == 0 ? x.leaf(2, 0, node, 0, 0) : x.join(node - 1, node - 1, 0);
             CHECKS.due("node " + node, got, node);
@@ -35,7 +27,7 @@ public final class LimitsTest {
 
     /** Each node is made of the one before, twice: 119 joins, all but the last SHARED. */
     private static void deepestChain() {
-        NoneWords x = withNames(2);
+        NoneWords x = Checks.withNames(2);
         x.leaf(2, 0, 1, 0, 0);
         for (int node = 1; node < 120; node++) {
             CHECKS.due("chain " + node, x.join(node - 1, node - 1, 0), node);
@@ -54,7 +46,7 @@ public final class LimitsTest {
 
     /** Each node is made of the one before and a leaf, so every other one is passed over. */
     private static void deepestChainOfLeaves() {
-        NoneWords x = withNames(2);
+        NoneWords x = Checks.withNames(2);
         x.leaf(2, 0, 1, 0, 0);
         x.join(0, 0, 0);
         for (int node = 2; node < 120; node++) {
@@ -69,7 +61,7 @@ public final class LimitsTest {
 
     /** Two causes with numbers of three digits and five terms in all three parts: 232 signs. */
     private static void longestSentence() {
-        NoneWords x = withNames(4, 4, 4, 4, 4);
+        NoneWords x = Checks.withNames(4, 4, 4, 4, 4);
         int wide = x.leaf(3, 0, 11, 1, 11);
         for (int name = 2; name < 5; name++) {
             wide = x.join(wide, x.leaf(3, name - 1, 11, name, 11), name - 1);
@@ -92,7 +84,7 @@ public final class LimitsTest {
 
     /** Five names of four versions with 119 leaves: no search may take long, nor any call throw. */
     private static void dearestSearches() {
-        NoneWords x = withNames(4, 4, 4, 4, 4);
+        NoneWords x = Checks.withNames(4, 4, 4, 4, 4);
         for (int i = 0; i < 20; i++) {
             x.leaf(0, i % 5, 15, 0, 0);
         }

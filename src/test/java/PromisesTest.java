@@ -27,14 +27,6 @@ public final class PromisesTest {
         CHECKS.due(call, got, want);
     }
 
-    private static NoneWords withNames(int... versions) {
-        NoneWords x = new NoneWords();
-        for (int count : versions) {
-            x.name(count);
-        }
-        return x;
-    }
-
     private static void term(NoneWords x, int node, int i, int name, int set, int wanted) {
         due("term " + node + " " + i + " name", x.term(node, i, 0), name);
         due("term " + node + " " + i + " set", x.term(node, i, 1), set);
@@ -84,7 +76,7 @@ public final class PromisesTest {
 
     /** Promise 3: what the kinds are. */
     private static void leaves() {
-        NoneWords x = withNames(3, 2, 4);
+        NoneWords x = Checks.withNames(3, 2, 4);
         due("3 demand", x.leaf(0, 0, 5, 0, 0), 0);
         due("3 demand terms", x.terms(0), 1);
         term(x, 0, 0, 0, 5, 0);
@@ -115,7 +107,7 @@ public final class PromisesTest {
 
     /** Promise 3: wrong inputs. */
     private static void leavesRefused() {
-        NoneWords x = withNames(3, 2);
+        NoneWords x = Checks.withNames(3, 2);
         for (int wrong : WRONG) {
             due("3 kind " + wrong, x.leaf(wrong, 0, 1, 1, 1), NONE);
             due("3 name " + wrong, x.leaf(0, wrong, 1, 1, 1), NONE);
@@ -131,7 +123,7 @@ public final class PromisesTest {
 
     /** Promise 4: what a join is. */
     private static void joins() {
-        NoneWords x = withNames(4, 4, 4);
+        NoneWords x = Checks.withNames(4, 4, 4);
         x.leaf(1, 0, 3, 1, 1);
         x.leaf(3, 1, 3, 2, 6);
         due("4 join", x.join(0, 1, 1), 2);
@@ -175,7 +167,7 @@ public final class PromisesTest {
 
     /** Promise 4: wrong inputs. */
     private static void joinsRefused() {
-        NoneWords x = withNames(2, 2, 0);
+        NoneWords x = Checks.withNames(2, 2, 0);
         x.leaf(2, 0, 1, 0, 0);
         x.leaf(2, 1, 1, 0, 0);
         x.leaf(1, 0, 1, 2, 1);
@@ -195,7 +187,7 @@ public final class PromisesTest {
 
     /** Promises 5 and 6. */
     private static void termsOfNodes() {
-        NoneWords x = withNames(3, 3);
+        NoneWords x = Checks.withNames(3, 3);
         x.leaf(1, 1, 5, 0, 6);
         due("5 two", x.terms(0), 2);
         for (int wrong : WRONG) {
@@ -220,7 +212,7 @@ public final class PromisesTest {
 
     /** Promise 7. */
     private static void writes() {
-        NoneWords x = withNames(2, 1);
+        NoneWords x = Checks.withNames(2, 1);
         x.leaf(0, 0, 3, 0, 0);
         x.leaf(1, 0, 3, 1, 1);
         x.leaf(2, 1, 1, 0, 0);
@@ -244,7 +236,7 @@ public final class PromisesTest {
 
     /** Promises 8 and 9. */
     private static void sentencesAndLetters() {
-        NoneWords x = withNames(2);
+        NoneWords x = Checks.withNames(2);
         x.leaf(2, 0, 2, 0, 0);
         x.write(0);
         String text = "a 1 is withdrawn.";
@@ -266,7 +258,7 @@ public final class PromisesTest {
 
     /** Promises 10 and 11. */
     private static void linesAndNumbers() {
-        NoneWords x = withNames(2);
+        NoneWords x = Checks.withNames(2);
         x.leaf(2, 0, 2, 0, 0);
         x.leaf(2, 0, 1, 0, 0);
         x.join(0, 1, 0);
@@ -302,7 +294,7 @@ public final class PromisesTest {
 
     /** Promise 12. */
     private static void solvable() {
-        NoneWords x = withNames(2, 2);
+        NoneWords x = Checks.withNames(2, 2);
         CHECKS.due("12 no leaves", x.solvable(), true);
         x.leaf(0, 0, 3, 0, 0);
         CHECKS.due("12 a demand", x.solvable(), true);
@@ -311,24 +303,24 @@ public final class PromisesTest {
         CHECKS.due("12 a way is left", x.solvable(), true);
         x.leaf(0, 1, 2, 0, 0);
         CHECKS.due("12 none is left", x.solvable(), false);
-        NoneWords y = withNames(2, 0);
+        NoneWords y = Checks.withNames(2, 0);
         y.leaf(2, 0, 3, 0, 0);
         y.leaf(3, 0, 3, 1, 3);
         y.leaf(1, 0, 3, 1, 0);
         CHECKS.due("12 nothing asked, nothing had", y.solvable(), true);
         y.leaf(0, 1, 15, 0, 0);
         CHECKS.due("12 what has no versions is asked for", y.solvable(), false);
-        NoneWords z = withNames(2);
+        NoneWords z = Checks.withNames(2);
         z.leaf(2, 0, 3, 0, 0);
         z.leaf(2, 0, 1, 0, 0);
         z.join(0, 1, 0);
         CHECKS.due("12 joins don't count", z.solvable(), true);
-        NoneWords w = withNames(1, 1);
+        NoneWords w = Checks.withNames(1, 1);
         w.leaf(0, 0, 1, 0, 0);
         w.leaf(1, 0, 1, 1, 1);
         w.leaf(3, 1, 1, 0, 1);
         CHECKS.due("12 a need against a conflict", w.solvable(), false);
-        NoneWords v = withNames(1, 1);
+        NoneWords v = Checks.withNames(1, 1);
         v.leaf(0, 1, 1, 0, 0);
         v.leaf(1, 1, 1, 0, 1);
         CHECKS.due("12 a need of an earlier name", v.solvable(), true);
@@ -338,7 +330,7 @@ public final class PromisesTest {
 
     /** Promises 13 and 14. */
     private static void least() {
-        NoneWords x = withNames(2, 2, 2);
+        NoneWords x = Checks.withNames(2, 2, 2);
         x.leaf(0, 2, 3, 0, 0);
         x.leaf(0, 0, 1, 0, 0);
         x.leaf(0, 0, 3, 0, 0);
@@ -366,7 +358,7 @@ public final class PromisesTest {
 
     /** Promise 13: by number, so of two that would do the later one stays. */
     private static void leastInOrder() {
-        NoneWords x = withNames(4);
+        NoneWords x = Checks.withNames(4);
         x.leaf(0, 0, 3, 0, 0);
         x.leaf(0, 0, 1, 0, 0);
         x.leaf(0, 0, 12, 0, 0);
@@ -374,13 +366,13 @@ public final class PromisesTest {
         due("13 in order", x.least(), 2);
         due("14 the first two of the four go", x.demand(0), 1);
         due("14 the last stays", x.demand(1), 3);
-        NoneWords y = withNames(3);
+        NoneWords y = Checks.withNames(3);
         y.leaf(0, 0, 3, 0, 0);
         y.leaf(0, 0, 5, 0, 0);
         y.leaf(0, 0, 6, 0, 0);
         due("13 all three", y.least(), 3);
         due("14 third", y.demand(2), 2);
-        NoneWords z = withNames(1);
+        NoneWords z = Checks.withNames(1);
         z.leaf(0, 0, 1, 0, 0);
         z.leaf(0, 0, 1, 0, 0);
         z.leaf(2, 0, 1, 0, 0);
@@ -392,7 +384,7 @@ public final class PromisesTest {
 
     /** Promise 15. */
     private static void hints() {
-        NoneWords x = withNames(2, 2);
+        NoneWords x = Checks.withNames(2, 2);
         x.leaf(1, 0, 3, 1, 1);
         x.leaf(0, 0, 3, 0, 0);
         x.leaf(3, 0, 2, 1, 1);
@@ -413,7 +405,7 @@ public final class PromisesTest {
         x.leaf(0, 1, 0, 0, 0);
         due("15 two at once are no hint", x.hint(0), NONE);
         CHECKS.due("15 nothing is left out for good", x.solvable(), false);
-        NoneWords y = withNames(1);
+        NoneWords y = Checks.withNames(1);
         y.leaf(2, 0, 1, 0, 0);
         y.leaf(0, 0, 1, 0, 0);
         due("15 the first node", y.hint(0), 0);

@@ -23,14 +23,6 @@ public final class WritingTest {
         CHECKS.written(x, node, sentences);
     }
 
-    private static NoneWords withNames(int... versions) {
-        NoneWords x = new NoneWords();
-        for (int count : versions) {
-            x.name(count);
-        }
-        return x;
-    }
-
     private static int gone(NoneWords x, int name, int set) {
         return x.leaf(2, name, set, 0, 0);
     }
@@ -42,23 +34,23 @@ public final class WritingTest {
     private static void wordsOfSets() {
         String[] words = {"no a", "a 0", "a 1", "a 0-1", "a 2", "a 0,2", "a 1-2", "a 0-2",
             "a 3", "a 0,3", "a 1,3", "a 0-1,3", "a 2-3", "a 0,2-3", "a 1-3", "a"};
-        NoneWords four = withNames(4);
+        NoneWords four = Checks.withNames(4);
         for (int set = 0; set < 16; set++) {
             written(four, gone(four, 0, set), words[set] + " is withdrawn.");
         }
-        NoneWords three = withNames(3);
+        NoneWords three = Checks.withNames(3);
         for (int set = 0; set < 16; set++) {
             String told = (set & 7) == 7 ? "a" : words[set & 7];
             written(three, gone(three, 0, set), told + " is withdrawn.");
         }
-        NoneWords none = withNames(1, 0);
+        NoneWords none = Checks.withNames(1, 0);
         written(none, gone(none, 0, 1), "a is withdrawn.");
         written(none, gone(none, 0, 2), "no a is withdrawn.");
         written(none, gone(none, 1, 15), "no b is withdrawn.");
     }
 
     private static void wordsOfLeaves() {
-        NoneWords x = withNames(4, 4, 4, 4, 4);
+        NoneWords x = Checks.withNames(4, 4, 4, 4, 4);
         written(x, asked(x, 4, 6), "e 1-2 is asked for.");
         written(x, asked(x, 3, 0), "no d is asked for.");
         written(x, x.leaf(1, 3, 9, 1, 0), "d 0,3 needs no b.");
@@ -68,7 +60,7 @@ public final class WritingTest {
     }
 
     private static void wordsOfJoins() {
-        NoneWords x = withNames(2, 2, 2, 2, 2);
+        NoneWords x = Checks.withNames(2, 2, 2, 2, 2);
         int aGone = gone(x, 0, 1);
         written(x, x.join(aGone, aGone, 0), "Because a 0 is withdrawn and a 0 is withdrawn, a 0 can't be.");
         int ab = x.leaf(3, 0, 1, 1, 2);
@@ -101,7 +93,7 @@ public final class WritingTest {
 
     /** Rule 2, J with a NUMBER. */
     private static void aLeafAndANumberedJoin() {
-        NoneWords x = withNames(4);
+        NoneWords x = Checks.withNames(4);
         int simple = x.join(gone(x, 0, 1), gone(x, 0, 2), 0);
         int more = x.join(simple, gone(x, 0, 4), 0);
         int again = x.join(gone(x, 0, 8), simple, 0);
@@ -114,7 +106,7 @@ public final class WritingTest {
 
     /** Rule 2, J isn't SHARED and is of a LEAF and a JOIN; on both sides of each join. */
     private static void aJoinThatIsPassedOver() {
-        NoneWords x = withNames(4);
+        NoneWords x = Checks.withNames(4);
         int simple = x.join(gone(x, 0, 1), gone(x, 0, 2), 0);
         int passed = x.join(simple, gone(x, 0, 4), 0);
         int last = x.join(passed, gone(x, 0, 8), 0);
@@ -129,7 +121,7 @@ public final class WritingTest {
     }
 
     private static void aSharedJoinIsNotPassedOver() {
-        NoneWords x = withNames(4);
+        NoneWords x = Checks.withNames(4);
         int simple = x.join(gone(x, 0, 1), gone(x, 0, 2), 0);
         int shared = x.join(simple, gone(x, 0, 4), 0);
         int one = x.join(shared, gone(x, 0, 8), 0);
@@ -142,7 +134,7 @@ public final class WritingTest {
 
     /** Rule 2, J isn't SHARED, but what it is of has a NUMBER. */
     private static void anInnerJoinWithANumber() {
-        NoneWords x = withNames(4);
+        NoneWords x = Checks.withNames(4);
         int simple = x.join(gone(x, 0, 1), gone(x, 0, 2), 0);
         int one = x.join(simple, gone(x, 0, 4), 0);
         int two = x.join(simple, gone(x, 0, 8), 0);
@@ -157,7 +149,7 @@ public final class WritingTest {
 
     /** Rule 3, one SIMPLE: it is the second, on whichever side it is. */
     private static void oneOfTwoJoinsSimple() {
-        NoneWords x = withNames(4);
+        NoneWords x = Checks.withNames(4);
         int simple = x.join(gone(x, 0, 1), gone(x, 0, 2), 0);
         int inner = x.join(gone(x, 0, 4), gone(x, 0, 1), 0);
         int longer = x.join(inner, gone(x, 0, 8), 0);
@@ -173,7 +165,7 @@ public final class WritingTest {
     }
 
     private static void bothJoinsSimple() {
-        NoneWords x = withNames(4);
+        NoneWords x = Checks.withNames(4);
         int left = x.join(gone(x, 0, 1), gone(x, 0, 2), 0);
         int right = x.join(gone(x, 0, 4), gone(x, 0, 8), 0);
         written(x, x.join(left, right, 0),
@@ -184,7 +176,7 @@ public final class WritingTest {
 
     /** Rule 3, none SIMPLE: the first gets a NUMBER though it isn't SHARED. */
     private static void noneOfTwoJoinsSimple() {
-        NoneWords x = withNames(4);
+        NoneWords x = Checks.withNames(4);
         int left = x.join(x.join(gone(x, 0, 1), gone(x, 0, 2), 0), gone(x, 0, 4), 0);
         int right = x.join(x.join(gone(x, 0, 2), gone(x, 0, 4), 0), gone(x, 0, 8), 0);
         int both = x.join(left, right, 0);
@@ -200,7 +192,7 @@ public final class WritingTest {
 
     /** Rule 3: the second comes into the first, so it has a NUMBER when the first is written. */
     private static void theSecondGetsItsNumberMeanwhile() {
-        NoneWords x = withNames(4);
+        NoneWords x = Checks.withNames(4);
         int inner = x.join(x.join(gone(x, 0, 1), gone(x, 0, 2), 0), gone(x, 0, 4), 0);
         int outer = x.join(inner, gone(x, 0, 8), 0);
         int both = x.join(outer, inner, 0);
@@ -219,7 +211,7 @@ public final class WritingTest {
     }
 
     private static void oneOfTwoJoinsNumbered() {
-        NoneWords x = withNames(4);
+        NoneWords x = Checks.withNames(4);
         int simple = x.join(gone(x, 0, 1), gone(x, 0, 2), 0);
         int other = x.join(gone(x, 0, 4), gone(x, 0, 8), 0);
         int first = x.join(simple, gone(x, 0, 4), 0);
@@ -250,7 +242,7 @@ public final class WritingTest {
 
     /** A join that the written one isn't made of makes nothing SHARED. */
     private static void sharedOnlyInsideTheWrittenOne() {
-        NoneWords x = withNames(4);
+        NoneWords x = Checks.withNames(4);
         int simple = x.join(gone(x, 0, 1), gone(x, 0, 2), 0);
         int one = x.join(simple, gone(x, 0, 4), 0);
         int two = x.join(simple, gone(x, 0, 8), 0);
