@@ -2,6 +2,12 @@
 final class Checks {
     private int asked = 0;
     private int wrong = 0;
+    private String promised = "";
+
+    /** The document's words that the answers from here on are asked for; told with each wrong one. */
+    void promise(String words) {
+        promised = words + ": ";
+    }
 
     static NoneWords withNames(int... versions) {
         NoneWords x = new NoneWords();
@@ -11,11 +17,17 @@ final class Checks {
         return x;
     }
 
+    /** Numbers that aren't 0 .. bound - 1: the nearest, the farthest, and those that a wrap-around would let in. */
+    static int[] outside(int bound) {
+        return new int[] {-1, -2, -32, -256, -65536, Integer.MIN_VALUE, Integer.MIN_VALUE + 1,
+            bound, bound + 1, bound + 32, bound + 256, 1 << 16, 1 << 30, Integer.MAX_VALUE - 1, Integer.MAX_VALUE};
+    }
+
     void due(String call, long got, long want) {
         asked++;
         if (got != want) {
             wrong++;
-            System.out.println(call + " answered " + got + ", due is " + want);
+            System.out.println(promised + call + " answered " + got + ", due is " + want);
         }
     }
 
@@ -27,8 +39,14 @@ final class Checks {
         asked++;
         if (!got.equals(want)) {
             wrong++;
-            System.out.println(call + " answered \"" + got + "\", due is \"" + want + "\"");
+            System.out.println(promised + call + " answered \"" + got + "\", due is \"" + want + "\"");
         }
+    }
+
+    void term(NoneWords x, int node, int i, int name, int set, int wanted) {
+        due("term(" + node + ", " + i + ", 0)", x.term(node, i, 0), name);
+        due("term(" + node + ", " + i + ", 1)", x.term(node, i, 1), set);
+        due("term(" + node + ", " + i + ", 2)", x.term(node, i, 2), wanted);
     }
 
     /** Writes the node and compares every sentence; "[2] " before one means that its line is 2. */

@@ -28,9 +28,7 @@ public final class PromisesTest {
     }
 
     private static void term(NoneWords x, int node, int i, int name, int set, int wanted) {
-        due("term " + node + " " + i + " name", x.term(node, i, 0), name);
-        due("term " + node + " " + i + " set", x.term(node, i, 1), set);
-        due("term " + node + " " + i + " wanted", x.term(node, i, 2), wanted);
+        CHECKS.term(x, node, i, name, set, wanted);
     }
 
     /** Promise 1. */

@@ -3,11 +3,11 @@ public final class WritingTest {
     private static final Checks CHECKS = new Checks();
 
     public static void main(String[] args) {
-        wordsOfSets();
         wordsOfLeaves();
         wordsOfJoins();
         aLeafAndANumberedJoin();
         aJoinThatIsPassedOver();
+        aJoinThatIsPassedOverOnEitherSide();
         aSharedJoinIsNotPassedOver();
         anInnerJoinWithANumber();
         oneOfTwoJoinsSimple();
@@ -15,6 +15,8 @@ public final class WritingTest {
         noneOfTwoJoinsSimple();
         theSecondGetsItsNumberMeanwhile();
         oneOfTwoJoinsNumbered();
+        oneOfTwoLongJoinsNumbered();
+        bothJoinsNumbered();
         sharedOnlyInsideTheWrittenOne();
         CHECKS.end("WritingTest");
     }
@@ -31,25 +33,8 @@ public final class WritingTest {
         return x.leaf(0, name, set, 0, 0);
     }
 
-    private static void wordsOfSets() {
-        String[] words = {"no a", "a 0", "a 1", "a 0-1", "a 2", "a 0,2", "a 1-2", "a 0-2",
-            "a 3", "a 0,3", "a 1,3", "a 0-1,3", "a 2-3", "a 0,2-3", "a 1-3", "a"};
-        NoneWords four = Checks.withNames(4);
-        for (int set = 0; set < 16; set++) {
-            written(four, gone(four, 0, set), words[set] + " is withdrawn.");
-        }
-        NoneWords three = Checks.withNames(3);
-        for (int set = 0; set < 16; set++) {
-            String told = (set & 7) == 7 ? "a" : words[set & 7];
-            written(three, gone(three, 0, set), told + " is withdrawn.");
-        }
-        NoneWords none = Checks.withNames(1, 0);
-        written(none, gone(none, 0, 1), "a is withdrawn.");
-        written(none, gone(none, 0, 2), "no a is withdrawn.");
-        written(none, gone(none, 1, 15), "no b is withdrawn.");
-    }
-
     private static void wordsOfLeaves() {
+        CHECKS.promise("WORDS of LEAVES");
         NoneWords x = Checks.withNames(4, 4, 4, 4, 4);
         written(x, asked(x, 4, 6), "e 1-2 is asked for.");
         written(x, asked(x, 3, 0), "no d is asked for.");
@@ -60,6 +45,7 @@ public final class WritingTest {
     }
 
     private static void wordsOfJoins() {
+        CHECKS.promise("WORDS of JOINS");
         NoneWords x = Checks.withNames(2, 2, 2, 2, 2);
         int aGone = gone(x, 0, 1);
         written(x, x.join(aGone, aGone, 0), "Because a 0 is withdrawn and a 0 is withdrawn, a 0 can't be.");
@@ -93,6 +79,7 @@ public final class WritingTest {
 
     /** Rule 2, J with a NUMBER. */
     private static void aLeafAndANumberedJoin() {
+        CHECKS.promise("2 a JOIN J with a NUMBER");
         NoneWords x = Checks.withNames(4);
         int simple = x.join(gone(x, 0, 1), gone(x, 0, 2), 0);
         int more = x.join(simple, gone(x, 0, 4), 0);
@@ -104,8 +91,9 @@ public final class WritingTest {
             "And because a 0-2 can't be (2), a can't be.");
     }
 
-    /** Rule 2, J isn't SHARED and is of a LEAF and a JOIN; on both sides of each join. */
+    /** Rule 2, J isn't SHARED and is of a LEAF and a JOIN. */
     private static void aJoinThatIsPassedOver() {
+        CHECKS.promise("2 is of one LEAF M and a JOIN I without a NUMBER");
         NoneWords x = Checks.withNames(4);
         int simple = x.join(gone(x, 0, 1), gone(x, 0, 2), 0);
         int passed = x.join(simple, gone(x, 0, 4), 0);
@@ -120,7 +108,24 @@ public final class WritingTest {
             "And because a 3 is withdrawn and a is asked for, nothing is left.");
     }
 
+    /** Rule 2: M and L each as P and as Q, the one told before the other being M always. */
+    private static void aJoinThatIsPassedOverOnEitherSide() {
+        CHECKS.promise("2 WRITE I, \"And because M and L, N.\"");
+        for (int sides = 0; sides < 4; sides++) {
+            NoneWords x = Checks.withNames(4);
+            int m = gone(x, 0, 1);
+            int l = gone(x, 0, 2);
+            int i = x.join(gone(x, 0, 4), gone(x, 0, 8), 0);
+            int j = (sides & 1) == 0 ? x.join(m, i, 0) : x.join(i, m, 0);
+            int n = (sides & 2) == 0 ? x.join(l, j, 0) : x.join(j, l, 0);
+            written(x, n,
+                "Because a 2 is withdrawn and a 3 is withdrawn, a 2-3 can't be.",
+                "And because a 0 is withdrawn and a 1 is withdrawn, a can't be.");
+        }
+    }
+
     private static void aSharedJoinIsNotPassedOver() {
+        CHECKS.promise("2 else, if J isn't SHARED");
         NoneWords x = Checks.withNames(4);
         int simple = x.join(gone(x, 0, 1), gone(x, 0, 2), 0);
         int shared = x.join(simple, gone(x, 0, 4), 0);
@@ -134,6 +139,7 @@ public final class WritingTest {
 
     /** Rule 2, J isn't SHARED, but what it is of has a NUMBER. */
     private static void anInnerJoinWithANumber() {
+        CHECKS.promise("2 a JOIN I without a NUMBER");
         NoneWords x = Checks.withNames(4);
         int simple = x.join(gone(x, 0, 1), gone(x, 0, 2), 0);
         int one = x.join(simple, gone(x, 0, 4), 0);
@@ -149,6 +155,7 @@ public final class WritingTest {
 
     /** Rule 3, one SIMPLE: it is the second, on whichever side it is. */
     private static void oneOfTwoJoinsSimple() {
+        CHECKS.promise("3 if Q is SIMPLE .. else, if P is SIMPLE");
         NoneWords x = Checks.withNames(4);
         int simple = x.join(gone(x, 0, 1), gone(x, 0, 2), 0);
         int inner = x.join(gone(x, 0, 4), gone(x, 0, 1), 0);
@@ -165,6 +172,7 @@ public final class WritingTest {
     }
 
     private static void bothJoinsSimple() {
+        CHECKS.promise("3 if Q is SIMPLE, first is P and second Q");
         NoneWords x = Checks.withNames(4);
         int left = x.join(gone(x, 0, 1), gone(x, 0, 2), 0);
         int right = x.join(gone(x, 0, 4), gone(x, 0, 8), 0);
@@ -176,6 +184,7 @@ public final class WritingTest {
 
     /** Rule 3, none SIMPLE: the first gets a NUMBER though it isn't SHARED. */
     private static void noneOfTwoJoinsSimple() {
+        CHECKS.promise("3 if neither was SIMPLE and it hasn't one, it gets a NUMBER");
         NoneWords x = Checks.withNames(4);
         int left = x.join(x.join(gone(x, 0, 1), gone(x, 0, 2), 0), gone(x, 0, 4), 0);
         int right = x.join(x.join(gone(x, 0, 2), gone(x, 0, 4), 0), gone(x, 0, 8), 0);
@@ -192,6 +201,7 @@ public final class WritingTest {
 
     /** Rule 3: the second comes into the first, so it has a NUMBER when the first is written. */
     private static void theSecondGetsItsNumberMeanwhile() {
+        CHECKS.promise("3 if second has a NUMBER by then");
         NoneWords x = Checks.withNames(4);
         int inner = x.join(x.join(gone(x, 0, 1), gone(x, 0, 2), 0), gone(x, 0, 4), 0);
         int outer = x.join(inner, gone(x, 0, 8), 0);
@@ -211,6 +221,7 @@ public final class WritingTest {
     }
 
     private static void oneOfTwoJoinsNumbered() {
+        CHECKS.promise("3 one, X");
         NoneWords x = Checks.withNames(4);
         int simple = x.join(gone(x, 0, 1), gone(x, 0, 2), 0);
         int other = x.join(gone(x, 0, 4), gone(x, 0, 8), 0);
@@ -240,8 +251,58 @@ public final class WritingTest {
             "And because a can't be (3), a can't be.");
     }
 
+    /** Rule 3, one has a NUMBER and isn't SIMPLE: the other one gets none, SIMPLE or not, on either side. */
+    private static void oneOfTwoLongJoinsNumbered() {
+        CHECKS.promise("3 one, X: WRITE the other one, \"And because X, N.\"");
+        for (int side = 0; side < 2; side++) {
+            NoneWords x = Checks.withNames(4);
+            int known = x.join(x.join(gone(x, 0, 1), gone(x, 0, 2), 0), gone(x, 0, 4), 0);
+            int before = x.join(known, gone(x, 0, 8), 0);
+            int simple = x.join(gone(x, 0, 4), gone(x, 0, 8), 0);
+            int longer = x.join(x.join(gone(x, 0, 2), gone(x, 0, 4), 0), gone(x, 0, 8), 0);
+            int withSimple = side == 0 ? x.join(known, simple, 0) : x.join(simple, known, 0);
+            int withLonger = side == 0 ? x.join(known, longer, 0) : x.join(longer, known, 0);
+            written(x, x.join(before, withSimple, 0),
+                "Because a 0 is withdrawn and a 1 is withdrawn, a 0-1 can't be.",
+                "[1] And because a 2 is withdrawn, a 0-2 can't be.",
+                "[2] And because a 3 is withdrawn, a can't be.",
+                "Because a 2 is withdrawn and a 3 is withdrawn, a 2-3 can't be.",
+                "And because a 0-2 can't be (1), a can't be.",
+                "And because a can't be (2), a can't be.");
+            written(x, x.join(before, withLonger, 0),
+                "Because a 0 is withdrawn and a 1 is withdrawn, a 0-1 can't be.",
+                "[1] And because a 2 is withdrawn, a 0-2 can't be.",
+                "[2] And because a 3 is withdrawn, a can't be.",
+                "Because a 1 is withdrawn and a 2 is withdrawn, a 1-2 can't be.",
+                "And because a 3 is withdrawn, a 1-3 can't be.",
+                "And because a 0-2 can't be (1), a can't be.",
+                "And because a can't be (2), a can't be.");
+        }
+    }
+
+    private static void bothJoinsNumbered() {
+        CHECKS.promise("3 both with NUMBERS: \"Because P and Q, N.\"");
+        for (int side = 0; side < 2; side++) {
+            NoneWords x = Checks.withNames(4);
+            int one = x.join(gone(x, 0, 1), gone(x, 0, 2), 0);
+            int two = x.join(one, gone(x, 0, 4), 0);
+            int before = x.join(two, gone(x, 0, 8), 0);
+            int both = side == 0 ? x.join(one, two, 0) : x.join(two, one, 0);
+            String told = side == 0
+                ? "Because a 0-1 can't be (1) and a 0-2 can't be (2), a 0-2 can't be."
+                : "Because a 0-2 can't be (2) and a 0-1 can't be (1), a 0-2 can't be.";
+            written(x, x.join(before, both, 0),
+                "[1] Because a 0 is withdrawn and a 1 is withdrawn, a 0-1 can't be.",
+                "[2] And because a 2 is withdrawn, a 0-2 can't be.",
+                "[3] And because a 3 is withdrawn, a can't be.",
+                told,
+                "And because a can't be (3), a can't be.");
+        }
+    }
+
     /** A join that the written one isn't made of makes nothing SHARED. */
     private static void sharedOnlyInsideTheWrittenOne() {
+        CHECKS.promise("SHARED .. of those that the written one is made of");
         NoneWords x = Checks.withNames(4);
         int simple = x.join(gone(x, 0, 1), gone(x, 0, 2), 0);
         int one = x.join(simple, gone(x, 0, 4), 0);
