@@ -779,13 +779,19 @@ public final class NoneWords {
                     leftOut[node] = true;
                     if (findsWorld()) {
                         leftOut[node] = false;
-                        stayed[stays] = node;
-                        stays++;
+                        keep(node);
                     }
                 }
             }
             takeAllBack();
             return stays;
+        }
+
+        private void keep(int demand) {
+            if (stays < MOST_NODES) {
+                stayed[stays] = demand;
+                stays++;
+            }
         }
 
         int blamed(int i) {
